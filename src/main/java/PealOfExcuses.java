@@ -691,6 +691,7 @@ public final class PealOfExcuses {
         final boolean[] aways = new boolean[MOST_PEOPLE];
         final int[] rows = new int[4 * MOST_PEOPLE];
 
+        // Also what lies beyond the others' size is copied, so that it is as new for whoever comes next.
         void become(Crowd other) {
             size = other.size;
             day = other.day;
@@ -708,11 +709,6 @@ public final class PealOfExcuses {
             numbers[p] = v;
             dues[p] = due;
             offs[p] = off;
-            // The place may have been another one's before undo().
-            aways[p] = false;
-            for (int part = 0; part < 4; part++) {
-                rows[4 * p + part] = 0;
-            }
             size++;
             return p;
         }
@@ -771,9 +767,7 @@ public final class PealOfExcuses {
                 case 1: return kinds[p];
                 case 2: return numbers[p];
                 case 3: return dues[p] / 10;
-                case 4:
-                    int far = offs[p] < 0 ? -offs[p] : offs[p];
-                    return far > 99 ? 99 : far;
+                case 4: return offs[p] > 99 || offs[p] < -99 ? 99 : offs[p] < 0 ? -offs[p] : offs[p];
                 default: return day % 10;
             }
         }
@@ -1209,7 +1203,6 @@ public final class PealOfExcuses {
             kind = crowd.kinds[person];
             v = crowd.numbers[person];
             i = person;
-            ran = 0;
             return perform(kind, act, x, 0);
         }
 

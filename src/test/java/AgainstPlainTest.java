@@ -2,7 +2,6 @@ import java.lang.reflect.InvocationTargetException;
 import java.lang.reflect.Method;
 import java.lang.reflect.Modifier;
 import java.util.Arrays;
-import java.util.HashMap;
 import java.util.Map;
 import java.util.Random;
 import java.util.TreeMap;
@@ -46,7 +45,7 @@ public final class AgainstPlainTest {
     }
 
     private static Map<String, Method> methods(Class<?> from) {
-        Map<String, Method> all = new HashMap<>();
+        Map<String, Method> all = new TreeMap<>();
         for (Method m : from.getDeclaredMethods()) {
             boolean own = Modifier.isPrivate(m.getModifiers()) || m.isSynthetic();
             if (!own && !Modifier.isStatic(m.getModifiers())) {
@@ -131,7 +130,7 @@ public final class AgainstPlainTest {
     }
 
     private void step() throws ReflectiveOperationException {
-        switch (below(18)) {
+        switch (below(19)) {
             case 0: comes(); break;
             case 1: people(); break;
             case 2: if (seldom(3)) { town(); } break;
@@ -144,6 +143,7 @@ public final class AgainstPlainTest {
             case 9: image(); break;
             case 10: look(); break;
             case 11: stir(); break;
+            case 12: wild(); break;
             default: ask(); break;
         }
     }
@@ -173,6 +173,19 @@ public final class AgainstPlainTest {
         call("odds", n, 0);
         call("odds", n, 1);
         call("until", below(3));
+    }
+
+    /** Any call with any arguments: none may throw. */
+    private void wild() throws ReflectiveOperationException {
+        String[] names = OURS.keySet().toArray(new String[0]);
+        String name = names[below(names.length)];
+        Class<?>[] types = OURS.get(name).getParameterTypes();
+        Object[] args = new Object[types.length];
+        for (int k = 0; k < args.length; k++) {
+            int any = seldom(3) ? odd() : seldom(2) ? random.nextInt() : below(7);
+            args[k] = types[k] == boolean.class ? (Object) seldom(2) : types[k] == long.class ? (Object) value() : (Object) any;
+        }
+        call(name, args);
     }
 
     private void look() throws ReflectiveOperationException {

@@ -307,6 +307,7 @@ public final class DaysTest {
         c.due("the first of two", y.prompt(), 0);
         c.due("behind 30 as it is", y.on(30, 0), 8);
         c.due("LAG is as it was", y.of(0, 5), 3);
+        c.due("LAG is as it was", y.of(2, 5), 9);
         PealOfExcuses z = new PealOfExcuses();
         z.person(0, 0, 40, 0);
         z.person(0, 0, 10, 8);
@@ -359,6 +360,15 @@ public final class DaysTest {
         c.due("by which it is heard, ahead or behind", y.best(0), -7);
         c.due("-10001", y.best(2), -10001);
         c.due("-10001", y.best(-1), -10001);
+        // Both come at one minute, and so are heard by v 9, by one OFF alone.
+        int[][] alone = {{51, 9}, {52, 8}, {68, -8}, {69, -9}, {50, -9}, {70, -9}};
+        for (int[] a : alone) {
+            PealOfExcuses z = new PealOfExcuses();
+            z.person(0, 9, 10, 0);
+            z.person(0, 9, a[0], 50);
+            Checks.town(z, "lag 5 p<2");
+            c.due("DUE " + a[0], z.best(0), a[1]);
+        }
         PealOfExcuses month = new PealOfExcuses();
         month.person(0, 0, 0, 0);
         Checks.town(month, "haste 1 p=0;fast 0");

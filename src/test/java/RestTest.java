@@ -144,6 +144,18 @@ public final class RestTest {
         c.due("SEEN itself", x.was(0, 0), 1);
         c.due("the BOOK itself", x.looked(), -5);
         c.due("the WEEK itself", x.gone(0), 0);
+        c.due("THE TEXT of before", x.town(), -11);
+        c.due("town", Checks.town(x, "fast 1"), 0);
+        x.see(-1, 0, 0);
+        x.see(0, 8, 3);
+        x.row(2, 3, 6);
+        x.image();
+        x.see(-1, 0, 0);
+        x.see(0, 8, 5);
+        x.row(2, 3, 1);
+        x.undo();
+        c.due("SEEN behind its DAYS", x.was(0, 1), 5);
+        c.due("the last ROW", x.row(2, 3, 0), 6);
     }
 
     private static void imageOfTown() {
@@ -291,7 +303,9 @@ public final class RestTest {
             c.due("no more", x.read(sort, 60), NO);
             c.due("item", x.item(sort, 59, 1), 1);
             c.due("read", x.read(sort, 59), 1);
+            x.item(sort, 0, 1);
             c.due("anew", x.tape(sort, sort, 60), 1);
+            c.due("all 0", x.read(sort, 0), 0);
             c.due("all 0", x.read(sort, 59), 0);
         }
         c.due("none", x.tape(5, 0, 0), 1);
@@ -299,6 +313,7 @@ public final class RestTest {
         c.due("no such place", x.item(5, 0, 1), -13);
         c.due("nothing", x.tape(5, -1, -99), 1);
         c.due("nothing there", x.item(5, 0, 1), -11);
+        c.due("nothing there", x.read(5, 0), NO);
         c.due("nothing", x.tape(5, -1, 99), 1);
         c.due("tape 6", x.tape(6, 9, 99), -1);
         c.due("tape -1", x.tape(-1, -1, 0), -1);

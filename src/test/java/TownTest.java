@@ -36,6 +36,16 @@ public final class TownTest {
         c.due("the next", Checks.town(x, "loud 9"), 1);
         c.due("FAST", x.told(1), 0);
         c.due("LOUD", x.told(2), 9);
+        x.person(0, 0, 0, 0);
+        c.due("a fault", Checks.town(x, "lag 9 p=0;loud 8;x"), -27);
+        c.due("the next", Checks.town(x, "fast 2;lag 1 p=9"), 2);
+        c.due("nothing is left of the fault", x.of(0, 5), 0);
+        c.due("nothing is left of the fault", x.told(2), 5);
+        for (int k = 0; k < 4; k++) {
+            c.due("a fault", Checks.town(x, "lag 9 p=0|p=0|p=0|p=0|p=0|p=0|p=0|p=0|p=0|p=0|p=0|p=0|p=0|p=0;x"), -72);
+        }
+        c.due("the next", Checks.town(x, "lag 2 p=0|p=1&p=2|v=1;haste 1 !p=1&!(v=3|v=4)"), 3);
+        c.due("LAG", x.of(0, 5), 1);
     }
 
     private static void full() {
