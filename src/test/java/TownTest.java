@@ -46,6 +46,9 @@ public final class TownTest {
         }
         c.due("the next", Checks.town(x, "lag 2 p=0|p=1&p=2|v=1;haste 1 !p=1&!(v=3|v=4)"), 3);
         c.due("LAG", x.of(0, 5), 1);
+        c.due("a fault", Checks.town(x, "lag 9 p=0;x"), -20);
+        c.due("the next", Checks.town(x, "lag 2 p=0"), 4);
+        c.due("LAG", x.of(0, 5), 2);
     }
 
     private static void full() {
@@ -91,9 +94,11 @@ public final class TownTest {
         x.person(0, 0, 9, -99);
         x.person(0, 0, 10, 100);
         x.person(0, 0, 0, -999);
+        x.person(0, 0, 90, -100);
+        x.person(0, 0, 89, -98);
         Checks.town(x, "lag 1 o=99;lag 2 o=98;lag 4 u=9;lag 8 u=0;lag 16 u=1;haste 32 o>99");
-        int[] lags = {6, 9, 17, 9};
-        for (int p = 0; p < 4; p++) {
+        int[] lags = {6, 9, 17, 9, 5, 2};
+        for (int p = 0; p < 6; p++) {
             c.due("o at most 99, u cut: " + p, x.of(p, 5), lags[p]);
         }
     }
@@ -192,6 +197,14 @@ public final class TownTest {
         fault(hundred.substring(0, 98) + "&&", 98);
         fault(hundred.substring(0, 96) + "&k=(", 99);
         fault(hundred.substring(0, 96) + "&!k=", 100);
+        PealOfExcuses all = new PealOfExcuses();
+        all.person(0, 0, 0, 0);
+        StringBuilder tenLags = new StringBuilder("lag 0 p=0");
+        for (int k = 1; k < 10; k++) {
+            tenLags.append(";lag ").append(k).append(" p=0");
+        }
+        c.due("ten lags", Checks.town(all, tenLags.toString()), 0);
+        c.due("LAG", all.of(0, 5), 45);
         PealOfExcuses most = new PealOfExcuses();
         most.person(0, 0, 99, -999);
         StringBuilder lags = new StringBuilder("lag 99 p=0");
