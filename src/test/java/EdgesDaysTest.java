@@ -120,6 +120,9 @@ public final class EdgesDaysTest {
             "row 1 0 7 = 0", "text lag 8 p=0", "town = 0", "on 1 11 = 4", "text lag 9 p=0", "town = 1", "on 1 11 = 27");
         s.tell("TOLD: no ROW, if it does not so: a greater number", "person 6 0 0 4 = 0", "person 5 9 0 20 = 1",
             "row 0 0 7 = 0", "text lag 8 p=1", "town = 0", "on 1 10 = 4");
+        s.tell("SETTING of the sixth, by its v", "person 5 9 0 20 = 0", "4x person 0 0 0 0", "person 0 8 0 0 = 5",
+            "text lag 7 p=0", "town = 0", "on 1 15 = 0", "on 1 14 = 20", "text lag 8 p=0", "town = 1",
+            "on 1 15 = 20", "pass 1", "of 5 3 = 20");
         s.tell("TOLD: the ROW of the sixth", "person 5 9 0 20 = 0", "5x person 6 0 0 0", "row 5 0 1 = 0",
             "row 5 1 2 = 0", "row 5 2 3 = 0", "row 5 3 4 = 0", "row 4 1 9 = 0", "text lag 9 p=0", "town = 0",
             "on 1 15 = 21", "on 2 15 = 22", "on 3 15 = 23", "on 4 15 = 24", "on 5 15 = 21", "on 2 14 = 29",

@@ -30,6 +30,8 @@ public final class EdgesPeopleTest {
             "row 0 3 1 = 0");
         s.tell("1: nothing is told", "count 2 = 0", "count 3 = 0", "count 4 = 0", "count 5 = 0", "count 6 = 0",
             "trace 0 = NONE", "looked = -5", "undo = STATE", "town = -10");
+        s.tell("an object is used for 512 calls", "505x person 7 0 0 0 = NONE", "person 0 0 0 4 = 0", "off 0 5 = 4",
+            "off 0 6 = 5", "pass 1 = 6", "image = 1", "of 0 3 = 6", "told 0 = 1");
         for (int tape = 0; tape <= 5; tape++) {
             s.tell("TAPES hold nothing at first", "item " + tape + " 0 0 = NOTHING", "read " + tape + " 0 = NO");
         }

@@ -81,6 +81,8 @@ public final class EdgesRestTest {
             "due 5 5", "away 5 true", "image = 6", "row 5 0 1", "row 5 3 2", "row 4 1 3", "row 0 2 4", "off 5 6",
             "due 5 6", "away 5 false", "undo = 6", "row 5 0 0 = 6", "row 5 3 0 = 7", "row 4 1 0 = 8", "row 0 2 0 = 9",
             "of 5 2 = 5", "of 5 3 = 5", "told 3 = 32");
+        s.tell("IMAGE: of the sixth, v and KIND", "5x person 0 0 0 0", "image = 5", "person 6 9 0 0 = 5", "undo = 5",
+            "person 2 4 0 0 = 5", "of 5 0 = 2", "of 5 1 = 4", "image = 6", "undo = 6", "of 5 0 = 2", "of 5 1 = 4");
         s.tellBehind("IMAGE: DAY", past, "pass 60", "told 0 = 65", "undo = 2", "told 0 = 5", "of 0 3 = 13");
         s.tellBehind("IMAGE: SEEN", past, "see 0 13 0 = 1", "see 0 23 10 = 2", "image = 2", "see -1 0 0",
             "see 0 5 0 = 1", "undo = 2", "count 2 = 2", "was 0 0 = 1", "was 0 1 = 13", "see 0 24 10 = 3", "was 0 0 = 0",
@@ -218,7 +220,8 @@ public final class EdgesRestTest {
         for (int sort = 0; sort <= 4; sort++) {
             s.tell("35: of a sort " + sort, "tape 2 " + sort + " 60 = 1", "read 2 0 = 0", "read 2 59 = 0",
                 "read 2 60 = NO", "item 2 59 1 = 1", "item 2 60 1 = PLACE", "read 2 59 = 1", "read 2 58 = 0",
-                "tape 2 " + sort + " 1 = 1", "read 2 0 = 0", "read 2 1 = NO");
+                "tape 2 " + sort + " 60 = 1", "read 2 59 = 0", "tape 2 " + sort + " 1 = 1", "read 2 0 = 0",
+                "read 2 1 = NO");
         }
     }
 

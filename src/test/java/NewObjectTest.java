@@ -17,6 +17,27 @@ public final class NewObjectTest {
         for (int tape = 0; tape < 6; tape++) {
             c.due("item(" + tape + ", 0, 1)", x.item(tape, 0, 1), -11);
         }
+        besideAnother(c);
         c.end();
+    }
+
+    private static void besideAnother(Checks c) {
+        PealOfExcuses one = new PealOfExcuses();
+        PealOfExcuses other = new PealOfExcuses();
+        one.person(6, 1, 2, 3);
+        one.tape(0, 1, 2);
+        one.act(0, 2, 1);
+        Checks.town(one, "fast 1");
+        one.feed('x');
+        one.pass(1);
+        one.image();
+        for (int what = 0; what <= 6; what++) {
+            c.due("count(" + what + ") of another one", other.count(what), 0);
+        }
+        c.due("told(0) of another one", other.told(0), 0);
+        c.due("told(1) of another one", other.told(1), 0);
+        c.due("undo() of another one", other.undo(), PealOfExcuses.STATE);
+        c.due("read(0, 0) of another one", other.read(0, 0), PealOfExcuses.NO);
+        c.due("OFF of the one", one.of(0, 3), 4);
     }
 }
