@@ -156,6 +156,9 @@ public final class EdgesTownTest {
             "town = -46", "text lag 1 p=1", "town = 0", "of 0 5 = 0", "told 1 = 0", "told 2 = 5",
             "text lag 8 p=0|p=0&p=0", "town = 1", "text lag 8 p=0|p=0&", "town = -24", "text lag 7 p=1|p=0", "town = 2",
             "of 0 5 = 7");
+        String many = "text lag 9 p=0|p=0|p=0|p=0|p=0|p=0|p=0|p=0|p=0|p=0|p=0|p=0|p=0|p=0|p=0|p=0|p=0|p=0|p=0|p=0;x";
+        s.tell("9: of many a FAULT nothing is left", "person 0 0 0 0 = 0", many, "town = -96", many, "town = -96", many,
+            "town = -96", "text lag 2 p=0|p=1&p=2;haste 1 !p=1&!(v=3|v=4)", "town = 0", "of 0 5 = 1");
         s.tell("9: a FAULT, and none held", "person 0 0 0 0 = 0", "text lag 9 p=0;x", "town = -20", "of 0 5 = 0",
             "told 1 = 0", "told 2 = 5", "count 1 = 0");
         s.tell("FAULT: the place of the first byte", "text x", "town = -10", "text lx", "town = -11",
@@ -271,7 +274,8 @@ public final class EdgesTownTest {
         String[] past = one(4, 7, 58, -34);
         String[] hold = {"p=0|p=1", "p=1|p=0", "p=0&k=4", "!p=1", "!!p=0", "p=0|p=1&p=1", "p=1&p=1|p=0",
             "(p=0|p=1)&k=4", "!p=1&k=4", "!(p=1&p=0)", "!(p=1|p=2)", "p=1|p=2|p=0", "p=0&k=4&v=7", "!p=0|p=0",
-            "!(p=0&(p=1))", "p=0&(p=1|(p=0|p=1))", "!(p=1&(p=0)|p=1)", "!!!!p=0", "((((p=0))))", "!!(!p=1)&p=0"};
+            "!(p=0&(p=1))", "p=0&(p=0)", "p=0&(p=1|(p=0|p=1))", "!(p=1&(p=0)|p=1)", "!!!!p=0", "((((p=0))))",
+            "!!(!p=1)&p=0"};
         String[] fail = {"p=1|p=2", "p=0&p=1", "p=1&p=0", "!p=0", "!!p=1", "(p=0|p=1)&p=1", "p=1&(p=1|p=0)",
             "!(p=1|p=0)", "!p=1&p=1", "!p=0&p=1", "p=0&k=4&v=6", "!!!!p=1", "!!!p=0", "!(p=0)|p=1", "!(!(p=1))",
             "p=0&(p=1)", "p=1&(p=0)", "p=1&(p=0|(p=1|p=0))", "p=1|p=0&(p=1|p=2)"};
