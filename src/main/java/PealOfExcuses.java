@@ -13,7 +13,9 @@ public final class PealOfExcuses {
     private static final int MOST_PEOPLE = 6, MOST_TOWNS = 6, MOST_TEXT = 100, MOST_CLAUSES = 10;
     private static final int MOST_SEEN = 5, MOST_WEEK = 10, MOST_BOOK = 8;
     private static final int MOST_TAPES = 6, MOST_ITEMS = 60, MOST_TRACE = 20;
-    private static final int FARTHEST = 999, LAST_DAY = 9999, MOST_DAYS = 60, MONTH = 30;
+    // No WRONG and no SPREAD is as great as BEYOND.
+    private static final int FARTHEST = 999, BEYOND = 2 * FARTHEST + 1;
+    private static final int LAST_DAY = 9999, MOST_DAYS = 60, MONTH = 30;
 
     private static final int PERSON = 0, CAREFUL = 1, DEAF = 2, VAIN = 3, SLOW = 4, STUBBORN = 5, TOLD = 6;
     private static final int KINDS = 7;
@@ -233,7 +235,7 @@ public final class PealOfExcuses {
         if (!isPerson(person)) {
             return BELOW + NONE;
         }
-        int least = Integer.MAX_VALUE;
+        int least = BEYOND;
         int found = 0;
         for (int off = -9; off <= 9; off++) {
             trial.become(now.crowd);
@@ -251,7 +253,7 @@ public final class PealOfExcuses {
         if (!isPerson(person)) {
             return NONE;
         }
-        int least = Integer.MAX_VALUE;
+        int least = BEYOND;
         int found = 0;
         for (int due = 0; due <= 90; due += 10) {
             trial.become(now.crowd);
